@@ -647,6 +647,16 @@ public final class PromisesTest {
             x.ratio(1, 1);
         }
         due("17 full ahead of beyond", x.at(1), LeftNumbers.FULL);
+        LeftNumbers two = of(2);
+        two.number(10, 1, 59);
+        two.coefficient(1, 1);
+        two.coefficient(0, -1024);
+        due("17 nought beyond", two.at(0), LeftNumbers.BEYOND);
+        two.coefficient(2, 1);
+        two.coefficient(1, -1024);
+        two.coefficient(0, 3);
+        due("17 nought beyond between", two.at(0), LeftNumbers.BEYOND);
+        due("17 nothing came of two", two.count(2), 1);
     }
 
     private static void promise18Firsts() {
@@ -763,7 +773,7 @@ public final class PromisesTest {
         due("21 of a ratio kind", x.kind(4), 0);
         due("21 of a ratio lift", x.lift(4), -1);
         x.ratio(-3, 28);
-        due("21 the lesser one", x.near(4, 5, 20), x.figure(5, -1) < 4 ? 1 : 0);
+        due("21 the lesser one", x.near(4, 5, 20), 1);
         x.number(-6, 4 + 7, 2);
         due("21 number", x.square(6), 7);
         tells("21 number", x, 7, 0, -3, 2, 16);
