@@ -10,11 +10,9 @@ public final class GuessTest {
     public static void main(String[] args) {
         Random random = new Random(14);
         for (int p : PRIMES) {
-            LeftNumbers x = new LeftNumbers();
-            int most = x.prime(p);
             for (int i = 0; i < FRACTIONS; i++) {
-                x.prime(p);
-                guessBack(x, p, 1 + random.nextInt(most), random);
+                LeftNumbers x = new LeftNumbers();
+                guessBack(x, p, 1 + random.nextInt(x.prime(p)), random);
             }
         }
         CHECK.end();

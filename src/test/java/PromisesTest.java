@@ -392,10 +392,11 @@ public final class PromisesTest {
         x.ratio(0, 5);
         due("10 0 / 1", x.figure(3, 1000), 0);
         due("10 0 / 1", x.figure(3, -100), 0);
-        x.ratio(1, 10);
         int[] tenth = {0, 0, 2, 2};
         for (int i = 0; i <= 1000; i++) {
-            due("10 a tenth " + i, x.figure(4, i), i == 0 ? 1 : tenth[i % 4]);
+            LeftNumbers y = of(3);
+            y.ratio(1, 10);
+            due("10 a tenth " + i, y.figure(0, i), i == 0 ? 1 : tenth[i % 4]);
         }
     }
 
