@@ -399,6 +399,12 @@ public final class TwoNumbersBoundaryTest {
             x.number(most - 2, p - 1, most);
             x.of(SUM, 7, 8);
             S.tells(x, 9, 0, -2, most, 1);
+            // Of K figures p - 1 the lowest alone has room above the 1.
+            x.number(most - 2, Sentences.power(p, most) - 1, most);
+            x.of(SUM, 0, 10);
+            S.tells(x, 11, 0, -1, most, 1 + (p - 1) * Sentences.power(p, most - 1));
+            x.of(LESS, 0, 10);
+            S.tells(x, 12, 0, -1, most, 1 + Sentences.power(p, most - 1));
         }
     }
 
