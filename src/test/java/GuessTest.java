@@ -1,7 +1,10 @@
 import java.math.BigInteger;
 import java.util.Random;
 
-/** Promise 14 with great bounds: a fraction's SHADOW gives it back, and by a bound below its parts nothing. */
+/**
+ * Promise 14 with great bounds: a fraction's SHADOW gives it back, and by a bound below its parts nothing; what is
+ * guessed of any figures is within the bound and NEAR them.
+ */
 public final class GuessTest {
     private static final int[] PRIMES = {2, 3, 5, 7, 11, 13, 17, 19, 23, 29, 31};
     private static final int FRACTIONS = 2000;
@@ -13,6 +16,8 @@ public final class GuessTest {
             for (int i = 0; i < FRACTIONS; i++) {
                 LeftNumbers x = new LeftNumbers();
                 guessBack(x, p, 1 + random.nextInt(x.prime(p)), random);
+                LeftNumbers y = new LeftNumbers();
+                guessAny(y, p, 1 + random.nextInt(y.prime(p)), random);
             }
         }
         CHECK.end();
@@ -38,6 +43,25 @@ public final class GuessTest {
             CHECK.due(name + " just without", x.guess(1, greater - 1), LeftNumbers.NONE);
         }
         CHECK.due(name + " too great", x.guess(1, bound + 1), LeftNumbers.BAD);
+    }
+
+    private static void guessAny(LeftNumbers x, int p, int n, Random random) {
+        int bound = greatestBound(p, n);
+        int lift = random.nextInt(7) - 3;
+        x.number(lift, (random.nextLong() >>> 2) / p * p + 1, n);
+        String name = x.told(0) + ", p " + p + ", lift " + lift + ", n " + n;
+        if (bound < 1) {
+            CHECK.due(name + " no bound", x.guess(0, 1), LeftNumbers.BAD);
+            return;
+        }
+        if (x.guess(0, bound) != 1) {
+            CHECK.due(name + " none", x.guess(0, bound), LeftNumbers.NONE);
+            return;
+        }
+        CHECK.due(name + " kind", x.kind(1), 1);
+        CHECK.holds(name + " up", Math.abs(x.part(1, 0)) <= bound);
+        CHECK.holds(name + " low", x.part(1, 1) <= bound);
+        CHECK.due(name + " near", x.near(0, 1, lift + n), 1);
     }
 
     private static int greatestBound(int p, int n) {
